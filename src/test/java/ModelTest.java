@@ -14,6 +14,8 @@ import java.util.regex.Pattern;
 /** Long random runs, each answer held against a slow model of the document that is written another way. */
 public final class ModelTest {
     private static final int RUNS = 1200;
+    private static final int READINGS = 6000;
+    private static final int CLOSE_RUNS = 4000;
     private static final int CALLS = 512;
     private static final String[] NAMES = {
         "type", "clear", "world", "place", "wagon", "now", "sun", "minute", "stand", "change", "undo", "behind",
@@ -32,6 +34,12 @@ public final class ModelTest {
         }
         for (int run = 0; run < RUNS && wrong < 20; run++) {
             oneRun(run);
+        }
+        for (int run = 0; run < READINGS && wrong < 20; run++) {
+            oneReading(run);
+        }
+        for (int run = 0; run < CLOSE_RUNS && wrong < 20; run++) {
+            oneCloseRun(run);
         }
         for (int i = 0; i < NAMES.length; i++) {
             // A call that was hardly asked, or answered always alike, was not tested.
@@ -71,6 +79,106 @@ public final class ModelTest {
             int which = pick(random);
             compare(run, told, which, someArguments(random, which), town, model);
         }
+    }
+
+    /** Items in any order, their numbers mostly well; what is told then is looked at. */
+    private static void oneReading(int run) {
+        Random random = new Random(run * 104729L + 3);
+        WheelTown town = new WheelTown();
+        Model model = new Model();
+        StringBuilder told = new StringBuilder();
+        for (int again = 0; again < 2; again++) {
+            for (char c : soup(random).toCharArray()) {
+                call(run, told, town, model, "type", c);
+            }
+            call(run, told, town, model, "world");
+            for (int i = 0; i < 5; i++) {
+                call(run, told, town, model, "now", i);
+                call(run, told, town, model, "count", i);
+                call(run, told, town, model, "wagon", i, 0);
+                call(run, told, town, model, "wagon", i, 1);
+                call(run, told, town, model, "wagon", i, 4);
+                call(run, told, town, model, "place", random.nextInt(12), i);
+            }
+            call(run, told, town, model, "clear");
+        }
+    }
+
+    private static String soup(Random r) {
+        StringBuilder text = new StringBuilder();
+        if (r.nextInt(3) == 0) {
+            text.append("r ").append(4 + r.nextInt(9)).append(';');
+        }
+        for (int i = 1 + r.nextInt(14); i > 0; i--) {
+            text.append(soupItem(r)).append(r.nextInt(60) == 0 ? "" : ";");
+        }
+        if (r.nextInt(10) == 0) {
+            text.setLength(r.nextInt(text.length() + 1));
+        }
+        return text.toString();
+    }
+
+    private static String soupItem(Random r) {
+        int odd = r.nextInt(90);
+        if (odd < 6) {
+            return new String[] {"ww 0", "q 1", "z", "r 5", "p 4294967300", "c 00 1"}[odd];
+        }
+        int p = r.nextInt(30) == 0 ? 12 : r.nextInt(4);
+        switch ("cspbwwwwwhhhh".charAt(r.nextInt(13))) {
+            case 'c': return "c " + p + " " + (r.nextInt(25) == 0 ? r.nextBoolean() ? 0 : 5 : 1 + r.nextInt(4));
+            case 's': return "s " + (r.nextInt(15) == 0 ? 10 : r.nextInt(20) == 0 ? 0 : 1 + r.nextInt(9)) + " "
+                + (r.nextInt(15) == 0 ? 21 : r.nextInt(20) == 0 ? 0 : 1 + r.nextInt(20));
+            case 'p': return "p " + p;
+            case 'b': return "b" + p;
+            case 'w': return "w " + (r.nextInt(60) == 0 ? 21 : r.nextInt(21)) + " " + (r.nextInt(60) == 0 ? 4 : r.nextInt(4))
+                + " " + (r.nextInt(60) == 0 ? 10 : r.nextInt(10)) + " " + (r.nextInt(60) == 0 ? 3 : r.nextInt(3));
+            default: {
+                int a = r.nextInt(3);
+                return "h " + a + " " + (r.nextInt(20) == 0 ? a : (a + 1 + r.nextInt(2)) % 3);
+            }
+        }
+    }
+
+    /** A close sun and works: starts, who bars, and how long one can stand, at first and a little later. */
+    private static void oneCloseRun(int run) {
+        Random r = new Random(run * 15485863L + 1);
+        StringBuilder text = new StringBuilder();
+        text.append("s ").append(2 + r.nextInt(2)).append(' ').append(1 + r.nextInt(4)).append(';');
+        if (r.nextBoolean()) {
+            text.append('b').append(r.nextInt(8)).append(';');
+        }
+        int wagons = r.nextInt(5) == 0 ? 5 : 1 + r.nextInt(3);
+        Set<Integer> taken = new HashSet<>();
+        while (taken.size() < wagons) {
+            int way = r.nextInt(r.nextInt(3) == 0 ? 15 : 5);
+            int rail = r.nextInt(2);
+            if (taken.add(way * 3 + rail)) {
+                text.append("w ").append(way).append(' ').append(r.nextInt(r.nextInt(4) == 0 ? 4 : 2)).append(' ')
+                    .append(r.nextInt(10)).append(' ').append(rail).append(';');
+            }
+        }
+        WheelTown town = new WheelTown();
+        Model model = new Model();
+        StringBuilder told = new StringBuilder();
+        for (char c : text.toString().toCharArray()) {
+            call(run, told, town, model, "type", c);
+        }
+        call(run, told, town, model, "world");
+        for (int again = 0; again < 2; again++) {
+            for (int w = -1; w < wagons; w++) {
+                call(run, told, town, model, "starts", w);
+            }
+            call(run, told, town, model, "bars");
+            call(run, told, town, model, "stands", r.nextInt(wagons));
+            call(run, told, town, model, "stand", r.nextInt(wagons), 1 + r.nextInt(3));
+            for (int i = r.nextInt(6); i > 0; i--) {
+                call(run, told, town, model, "minute");
+            }
+        }
+    }
+
+    private static void call(int run, StringBuilder told, WheelTown town, Model model, String name, int... a) {
+        compare(run, told, List.of(NAMES).indexOf(name), a, town, model);
     }
 
     private static int pick(Random random) {

@@ -156,7 +156,7 @@ public final class PromisesTest {
     private static void worldsWithFaults() {
         String six = "w 0 0 0 0;w 1 0 0 0;w 2 0 0 0;w 3 0 0 0;w 4 0 0 0;w 5 0 0 0;";
         Object[][] faults = {
-            {";", 0}, {"4", 0}, {"x 1;", 0}, {"rr 4;", 0}, {"R 4;", 0}, {" R", 1}, {"r", 1}, {"r  ", 3}, {"r 4", 3},
+            {";", 0}, {"4", 0}, {"x 1;", 0}, {"rr 4;", 0}, {"ra 4;", 0}, {"rz 4;", 0}, {"zr 4;", 0}, {"r 4294967300;", 2}, {"R 4;", 0}, {" R", 1}, {"r", 1}, {"r  ", 3}, {"r 4", 3},
             {"r 4;r 4;", 4}, {"r 04;", 2}, {"r 00;", 2}, {"r 100;", 2}, {"r 1234567890123;", 2}, {"r 4 5;", 4},
             {"r;", 1}, {"r x;", 2}, {"r\t4;", 1}, {"r 3;", 2}, {"r 13;", 2}, {"c 0 1;r 5;", 6}, {"r 4;c 4 1;", 6},
             {"r 5;b 5;", 6}, {"r 5;p 5;", 6}, {"p 8;", 2}, {"c 8 1;", 2}, {"c 0 0;", 4}, {"c 0 5;", 4},
@@ -602,7 +602,35 @@ public final class PromisesTest {
         WheelTown well = town("w 0 0 0 0;");
         due("nobody lacks, nobody is caught", 0, well.starts(-1));
         due("nobody lacks, nobody is caught", 0, well.starts(0));
-        // A caught one is not one of these.
+        // Both (0, 2) and (1, 1) are safe: the first by wagons' numbers.
+        WheelTown tie = town("s 3 2;w 1 0 1 0;w 0 0 6 0;");
+        due("of several the first: together", 2, tie.starts(-1));
+        due("of several the first: 0", 0, tie.starts(0));
+        due("of several the first: 1", 2, tie.starts(1));
+        // From WAY s it stands up to minute s + 7, the sun then at (s + 7) / 2 - 1: safe from s = 6 on; by 8 from 7.
+        due("start 6", 6, town("s 2 1;w 0 0 7 0;").starts(0));
+        due("start 7 is too late", NONE, town("s 2 1;w 0 0 8 0;").starts(0));
+        // It stands at WAY 1 for 60 minutes; the sun is there in minute 42.
+        WheelTown forty = town("s 2 20;w 1 0 0 0;");
+        stand(forty, 0, 60);
+        forty.minute();
+        due("caught behind 41: not asked", 0, forty.starts(-1));
+        due("caught behind 41: not asked", 30, forty.stands(0));
+        forty.minute();
+        due("caught behind 40", NONE, forty.starts(-1));
+        due("caught behind 40", NONE, forty.stands(0));
+        // A caught one is not one of the three: 3 is, and is caught by its 9 minutes.
+        WheelTown three = town("s 1 1;w 0 3 9 0;w 20 0 1 0;w 20 0 1 1;w 3 0 9 2;");
+        three.minute();
+        due("0 is caught", 1, three.now(4));
+        due("the third of these is 3", NONE, three.starts(-1));
+        due("the third of these is 3", 3, three.bars());
+        // 3 of 6 minutes are DONE in minute 6 at WAY 4: 3 more are safe at once (the sun is at 3 in minute 9), 6 were not.
+        WheelTown half = town("s 2 1;w 1 0 6 0;");
+        pass(half, 3);
+        half.stand(0, 3);
+        pass(half, 3);
+        due("what is DONE is not lacked", 0, half.starts(0));
         WheelTown gone = town("s 1 1;w 0 3 9 0;w 9 0 0 1;");
         gone.minute();
         due("0 is caught", 1, gone.now(4));
