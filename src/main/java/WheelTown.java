@@ -80,7 +80,7 @@ public final class WheelTown {
             return BAD;
         }
         switch (what) {
-            case 0: return ground.costAt(p);
+            case 0: return ground.cost[p];
             case 1: return ground.points >> p & 1;
             case 2: return ground.bridge == p ? 1 : 0;
             default: return BAD;
@@ -645,12 +645,9 @@ public final class WheelTown {
             return places < 1 ? 0 : way % places;
         }
 
-        int costAt(int p) {
-            return hasPlace(p) ? cost[p] : COST_AT_FIRST;
-        }
-
         int minutesFor(int w, int way) {
-            return costAt(placeOf(way)) + (hasWagon(w) ? pace[w] : 0);
+            int p = placeOf(way);
+            return (hasPlace(p) ? cost[p] : COST_AT_FIRST) + (hasWagon(w) ? pace[w] : 0);
         }
 
         int sunWay(int t, int itsLead) {
