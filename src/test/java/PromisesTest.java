@@ -1,16 +1,5 @@
-import java.util.function.LongSupplier;
-
 /** Every promise by itself: ordinary inputs, the edges that the document names, wrong inputs; worked by hand. */
-public final class PromisesTest {
-    private static final int BAD = -1;
-    private static final int STATE = -2;
-    private static final int FULL = -3;
-    private static final int NONE = -9;
-    private static final int NO = -1000000;
-
-    private static int wrong = 0;
-    private static int asked = 0;
-
+public final class PromisesTest extends TownTest {
     public static void main(String[] args) {
         aNewObject();
         typeAndClear();
@@ -40,51 +29,7 @@ public final class PromisesTest {
         images();
         counts();
         askingChangesNothing();
-        System.out.println(wrong == 0 ? asked + " answers are as due" : wrong + " answers are not as due");
-        if (wrong != 0) {
-            System.exit(1);
-        }
-    }
-
-    private static void due(String what, long want, long got) {
-        asked++;
-        if (got != want) {
-            wrong++;
-            System.out.println(what + " answered " + got + ", due is " + want);
-        }
-    }
-
-    private static void dueOfAll(String what, long want, LongSupplier... calls) {
-        for (int i = 0; i < calls.length; i++) {
-            due(what + " (" + i + ")", want, calls[i].getAsLong());
-        }
-    }
-
-    private static void type(WheelTown x, String text) {
-        for (char c : text.toCharArray()) {
-            x.type(c);
-        }
-    }
-
-    private static int world(WheelTown x, String text) {
-        type(x, text);
-        return x.world();
-    }
-
-    private static WheelTown town(String text) {
-        WheelTown x = new WheelTown();
-        int items = world(x, text);
-        if (items < 0) {
-            wrong++;
-            System.out.println("'" + text + "' was refused: " + items);
-        }
-        return x;
-    }
-
-    private static void pass(WheelTown x, int minutes) {
-        for (int i = 0; i < minutes; i++) {
-            x.minute();
-        }
+        end();
     }
 
     // 1
@@ -506,12 +451,6 @@ public final class PromisesTest {
         WheelTown beyond = town("s 3 20;w 1 0 0 0;");
         stand(beyond, 0, 90);
         due("behind 63: not asked", NONE, beyond.caught(0));
-    }
-
-    private static void stand(WheelTown x, int w, int minutes) {
-        for (int rest = minutes; rest > 0; rest -= 30) {
-            x.stand(w, Math.min(30, rest));
-        }
     }
 
     // 15
