@@ -14,6 +14,7 @@ public final class ComingEdgesTest extends TownTest {
         standsTheMost();
         standsByNoNumber();
         standsOfWhichWagons();
+        standsWithoutTheStarts();
         startsOfThoseThatLack();
         startsOfThreeAtMost();
         startsFromNoughtToSix();
@@ -234,6 +235,12 @@ public final class ComingEdgesTest extends TownTest {
     private static void standsByNoNumber() {
         due("itself", NONE, town("s 1 1;w 0 1 0 0;").stands(0));
         due("another", NONE, town("s 1 1;w 0 1 0 0;w 20 0 0 1;").stands(1));
+        // What is ordered already is not taken back.
+        WheelTown two = town("s 1 1;w 1 0 0 0;");
+        two.stand(0, 1);
+        due("one of one", 0, two.stands(0));
+        two.stand(0, 1);
+        due("two of one", NONE, two.stands(0));
         due("one behind it", 0, town("s 1 1;w 0 0 0 0;w 1 0 0 0;").stands(1));
     }
 
@@ -244,6 +251,17 @@ public final class ComingEdgesTest extends TownTest {
             () -> x.stands(Integer.MAX_VALUE), () -> new WheelTown().stands(0));
         due("of a caught one", STATE, x.stands(0));
         due("of the last", 20, x.stands(1));
+    }
+
+    // STANDS: that WAGON alone is ordered; what STARTS asked for is not
+    private static void standsWithoutTheStarts() {
+        WheelTown x = town("s 2 1;w 0 0 8 0;w 20 0 9 1;");
+        due("no starts", NONE, x.starts(-1));
+        due("stands(1)", 30, x.stands(1));
+        due("stands(0)", 1, x.stands(0));
+        due("0 bars", 0, x.bars());
+        due("stands(1)", 30, x.stands(1));
+        due("stands(0)", 1, x.stands(0));
     }
 
     // STARTS: each .. whose DONE and minutes to STAND together are less than its WORK LACKS the rest
@@ -375,6 +393,12 @@ public final class ComingEdgesTest extends TownTest {
         due("the third", 2, town("s 2 1;w 20 0 1 0;w 20 0 1 1;w 0 0 8 0;").bars());
         due("its number, not which of these", 4,
             town("s 2 1;w 20 0 1 0;w 19 0 0 0;w 20 0 1 1;w 18 0 0 0;w 0 0 8 0;").bars());
+        // The others start as late as they have to.
+        due("without the first, the second by 6", 0, town("s 2 1;w 0 0 8 0;w 0 0 7 1;").bars());
+        due("without the second, the first by 6", 1, town("s 2 1;w 0 0 7 0;w 0 0 8 1;").bars());
+        due("without the first, the others by 6", 0, town("s 2 1;w 0 0 8 0;w 0 0 7 1;w 0 0 7 2;").bars());
+        due("without the second, the others by 6", 1, town("s 2 1;w 0 0 7 0;w 0 0 8 1;w 0 0 7 2;").bars());
+        due("without the third, the others by 6", 2, town("s 2 1;w 0 0 7 0;w 0 0 7 1;w 0 0 8 2;").bars());
         // Without either there are, as with both there are none.
         String head = "s 2 1;b 5;";
         due("both", NONE, town(head + "w 4 1 8 1;w 3 1 6 0;").starts(-1));
@@ -428,7 +452,7 @@ public final class ComingEdgesTest extends TownTest {
         due("still NOW's", 10, x.pieces(0, 9));
         // Each minute one less up to minute 8, then both go on.
         due("still NOW's", 10, x.pieces(0, 60));
-        // The one ahead goes on for 3 minutes to place 3, where it has to stay 4 minutes: the most is in between.
+        // Slow PLACES hold up the one ahead and then the one behind: the most so far, by a twin, minute by minute.
         WheelTown y = town("r 12;s 9 20;c 3 4;c 2 4;w 0 1 0 1;w 2 0 0 1;");
         int most = 0;
         WheelTown twin = town("r 12;s 9 20;c 3 4;c 2 4;w 0 1 0 1;w 2 0 0 1;");
@@ -561,6 +585,14 @@ public final class ComingEdgesTest extends TownTest {
         due("one LEFT", 1, z.wagon(0, 4));
         due("3 by 4", 3, z.odds(0, 5, 2, 0));
         due("3 by 4", 4, z.odds(0, 5, 2, 1));
+        // As it comes to place 1 it has LEFT what that COSTS and its PACE: THE SUN is there in MINUTE 3.
+        for (String slow : new String[] {"c 1 3;w 0 0 0 0;", "w 0 2 0 0;", "c 1 2;w 0 1 0 0;", "w 0 0 0 0;w 9 2 0 1;h 0 1;"}) {
+            WheelTown late = town("s 1 2;" + slow);
+            int minutes = late.wagon(0, 4);
+            due("not caught behind 1: " + slow, 1, late.odds(0, 0, 1, 0));
+            due("caught behind 3: " + slow, 0, late.odds(0, 0, 3, 0));
+            due("as it is by minutes: " + slow, minutes > 2 ? 2 : 3, late.caught(0));
+        }
         WheelTown two = town("s 1 2;w 0 1 0 0;");
         due("1 by 4", 1, two.odds(0, 5, 2, 0));
         due("1 by 4", 4, two.odds(0, 5, 2, 1));

@@ -30,6 +30,9 @@ public final class TextEdgesTest extends TownTest {
         textsThatEndTooEarly();
         theFirstFaultCounts();
         itemsThatAreNone();
+        whatWasToldIsGone();
+        wagonsOfAnotherTownAreGone();
+        whatWasTypedIsGone();
         end();
     }
 
@@ -318,13 +321,11 @@ public final class TextEdgesTest extends TownTest {
         due("clear", 200, x.clear());
         due("room again", 1, x.type(32));
         // 199 and 200 bytes tell a town.
-        String pad = "                                                                                ";
-        tells((pad + pad + pad).substring(0, 195) + "p 1;", 1);
-        tells((pad + pad + pad).substring(0, 196) + "p 1;", 1);
-        faultAt(200, (pad + pad + pad).substring(0, 197) + "p 1");
-        faultAt(198, (pad + pad + pad).substring(0, 196) + "p 8;");
-        WheelTown told = new WheelTown();
-        world(told, (pad + pad + pad).substring(0, 196) + "p 1;");
+        tells(" ".repeat(195) + "p 1;", 1);
+        tells(" ".repeat(196) + "p 1;", 1);
+        faultAt(200, " ".repeat(197) + "p 1");
+        faultAt(198, " ".repeat(196) + "p 8;");
+        WheelTown told = town(" ".repeat(196) + "p 1;");
         due("a town that is told leaves it empty", 1, told.type(32));
     }
 
@@ -530,5 +531,89 @@ public final class TextEdgesTest extends TownTest {
         due("an empty text tells a town, too", 0, x.world());
         due("that of a new object: n", 8, x.now(1));
         due("that of a new object: no WAGONS", 0, x.count(0));
+    }
+
+    // THE TEXT tells all: nothing is left of a text ahead of it, whether it told a town or had a fault
+    private static void whatWasToldIsGone() {
+        String all = "r 12;c 0 4;s 1 1;b 1;p 2;w 4 3 9 1;w 5 3 9 1;h 0 1;";
+        WheelTown x = new WheelTown();
+        for (int again = 0; again < 3; again++) {
+            world(x, all);
+            due("told " + again, 1, world(x, "w 4 0 0 1;"));
+            dueOneWagon("told " + again, x);
+        }
+        WheelTown y = town("w 4 0 0 1;");
+        for (int again = 0; again < 3; again++) {
+            due("a fault", -10 - all.length(), world(y, all + "x"));
+            y.clear();
+            dueOneWagon("a fault " + again, y);
+            due("told " + again, 1, world(y, "w 4 0 0 1;"));
+            dueOneWagon("a fault and then told " + again, y);
+        }
+    }
+
+    private static void dueOneWagon(String what, WheelTown x) {
+        int[] now = {0, 8, 3, 5, 0, 1};
+        int[] wagon = {4, 0, 0, 1, 1, 0, 0, 0};
+        int[] count = {1, 0, 0, 0, 0};
+        for (int i = 0; i < wagon.length; i++) {
+            due(what + ": wagon(0, " + i + ")", wagon[i], x.wagon(0, i));
+            due(what + ": place(" + i + ", 0)", 1, x.place(i, 0));
+            due(what + ": place(" + i + ", 2)", 0, x.place(i, 2));
+        }
+        for (int i = 0; i < now.length; i++) {
+            due(what + ": now(" + i + ")", now[i], x.now(i));
+        }
+        for (int i = 0; i < count.length; i++) {
+            due(what + ": count(" + i + ")", count[i], x.count(i));
+        }
+    }
+
+    // .. nor are its WAGONS: they take no place, they are not caught, they lack nothing
+    private static void wagonsOfAnotherTownAreGone() {
+        String five = "p 0;w 4 3 9 0;w 5 3 9 0;w 6 3 9 0;w 7 3 9 0;w 20 3 9 0;h 0 1;h 1 2;h 2 3;h 3 4;";
+        String two = "s 2 2;w 3 0 4 0;w 2 0 1 1;";
+        WheelTown x = new WheelTown();
+        world(x, five);
+        world(x, five);
+        world(x, two);
+        WheelTown twin = town(two);
+        for (int t = 0; t < 8; t++) {
+            dueAlike("minute " + t, courseOf(twin), courseOf(x));
+            due("minute " + t, twin.minute(), x.minute());
+        }
+    }
+
+    private static String courseOf(WheelTown x) {
+        StringBuilder course = new StringBuilder();
+        for (int w = 0; w < 2; w++) {
+            course.append(x.wagon(w, 0)).append(' ').append(x.behind(60, w, 0)).append(' ').append(x.stands(w)).append(' ');
+        }
+        course.append(x.now(4)).append(' ').append(x.now(5)).append(' ').append(x.caught(0)).append(' ').append(x.waits(0));
+        course.append(' ').append(x.starts(-1)).append(' ').append(x.starts(0)).append(' ').append(x.bars()).append(' ');
+        course.append(x.pieces(0, 20)).append(' ').append(x.pieces(1, 20)).append(' ').append(x.met(4, 2));
+        return course.toString();
+    }
+
+    // clear: THE TEXT is empty; a text ends where it ends, whatever was typed ahead of it
+    private static void whatWasTypedIsGone() {
+        WheelTown x = new WheelTown();
+        String[][] texts = {{"pppp", "p"}, {"p 1111", "p 1"}, {"p 0000", "p 0"}, {"p 1;;;", "p 1"}, {"p 1;xxx", "p 1;"},
+            {"p    ", "p"}};
+        for (String[] row : texts) {
+            type(x, row[0]);
+            due("clear", row[0].length(), x.clear());
+            due("'" + row[1] + "'", row[1].endsWith(";") ? 1 : -10 - row[1].length(), world(x, row[1]));
+            x.clear();
+        }
+        // Also if it ends at the 200th byte.
+        String pad = " ".repeat(196);
+        faultAt(198, pad + "p 00");
+        faultAt(198, pad + "p 12");
+        faultAt(198, pad + "  pp");
+        faultAt(200, pad + "   p");
+        faultAt(200, pad + "p  0");
+        faultAt(199, pad + "   x");
+        faultAt(199, pad + "   ;");
     }
 }
